@@ -5,6 +5,7 @@ public final class SymbolicForms {
     private static final int MOST_EXPRESSIONS = 16;
     private static final int HIGHEST_DEGREE = 6;
     private static final int HIGHEST_POWER = 6;
+    private static final int EXPONENTS = 7;
     private static final int TRIPLES = 343;
     private static final int A_TRIPLE = 49;
     private static final int B_TRIPLE = 7;
@@ -398,7 +399,7 @@ public final class SymbolicForms {
         if (symbol == 0) {
             return triple / A_TRIPLE;
         }
-        return symbol == 1 ? triple / B_TRIPLE % 7 : triple % 7;
+        return symbol == 1 ? triple / B_TRIPLE % EXPONENTS : triple % EXPONENTS;
     }
 
     private static int degreeOfTriple(int triple) {
