@@ -21,7 +21,7 @@ public final class PromiseTest {
             clear = 3
             expressions = 0; kinds = 0; same 0 0 = -1; degree 2 = -2; add 0 1 = -1
             clear = 0
-            fill
+            fill 16
             clear = 16
             expressions = 0
             number 2 = 0
@@ -38,7 +38,7 @@ public final class PromiseTest {
             poly 2 = 1@1
             poly 3 = 1@7
             symbol S! = -1
-            fill
+            fill 16
             symbol 0 = -2; symbol 1 = -2; symbol 2 = -2
             symbol S! = -1
             """);
@@ -60,7 +60,7 @@ public final class PromiseTest {
             poly 8 = 10006@0
             poly 9 = 1461@0      # 2147483647 = 214598 * 10007 + 1461
             poly 10 = 8545@0     # -2147483648 = -214599 * 10007 + 8545
-            fill
+            fill 16
             number 1 = -2; number 0 = -2; number MIN = -2; number MAX = -2
             """);
     }
@@ -78,7 +78,7 @@ public final class PromiseTest {
             power 2 6 = 10; add 10 10 = 11
             poly 11 = 2@294 12@252 30@210 40@168 30@126 12@84 2@42
             add X! 0 = -1; add 0 X! = -1; add X! X! = -1
-            fill
+            fill 16
             add 0 15 = -2; add X! 0 = -1; add 0 X! = -1
             """);
     }
@@ -97,7 +97,7 @@ public final class PromiseTest {
             poly 10 = 10005@0
             poly 11 = 2@0
             subtract X! 0 = -1; subtract 0 X! = -1; subtract X! X! = -1
-            fill
+            fill 16
             subtract 0 15 = -2; subtract X! 0 = -1; subtract 0 X! = -1
             """);
     }
@@ -146,7 +146,7 @@ public final class PromiseTest {
             power 5 3 = 14
             terms 14 = 28
             coefficient 14 114 = 90     # a^2 b^2 c^2
-            fill
+            fill 16
             power 0 1 = -2; power 6 2 = -2; power 6 N! = -2
             power X! 1 = -1; power X! N! = -1
             """);
@@ -170,7 +170,7 @@ public final class PromiseTest {
             poly 11 = 0
             derive 0 S! = -4; derive 10 S! = -4
             derive X! 0 = -1; derive X! S! = -1
-            fill
+            fill 16
             derive 0 0 = -2; derive 0 S! = -2
             derive X! 0 = -1; derive X! S! = -1
             """);
@@ -202,7 +202,7 @@ public final class PromiseTest {
             substitute X! 0 1 = -1; substitute 1 0 X! = -1; substitute X! S! 1 = -1; substitute 1 S! X! = -1
             substitute 1 S! 1 = -4; substitute 8 S! 8 = -4; substitute 9 S! 9 = -4
             substitute 8 0 8 = -3
-            fill
+            fill 16
             substitute 0 0 0 = -2; substitute 8 0 8 = -2; substitute 8 S! 8 = -2
             substitute X! 0 1 = -1; substitute 1 0 X! = -1; substitute X! S! 1 = -1; substitute 1 S! X! = -1
             """);
@@ -276,7 +276,7 @@ public final class PromiseTest {
             number 1 = 0; expressions = 1; symbol 0 = 1; expressions = 2; add 0 1 = 2; expressions = 3
             subtract 0 1 = 3; expressions = 4; multiply 0 1 = 4; expressions = 5; power 0 1 = 5; expressions = 6
             derive 0 1 = 6; expressions = 7; substitute 0 1 0 = 7; expressions = 8
-            fill
+            fill 16
             expressions = 16; number 1 = -2; expressions = 16
             clear = 16
             expressions = 0
@@ -372,7 +372,7 @@ public final class PromiseTest {
             number 1 = 7; kinds = 4; power 2 0 = 8; kinds = 4; number 2 = 9; kinds = 5
             clear = 10
             kinds = 0
-            fill
+            fill 16
             kinds = 1
             """);
         RUNNER.run("promise 19, all different", """
@@ -397,7 +397,7 @@ public final class PromiseTest {
             clear = 5
             symbol 1 = 0
             poly 0 = 1@7
-            fill
+            fill 16
             number 1 = -2
             clear = 16
             number 1 = 0
@@ -434,10 +434,6 @@ public final class PromiseTest {
         for (Runnable promise : promises) {
             promise.run();
         }
-        int wrong = RUNNER.wrong();
-        System.out.println(wrong == 0 ? "all answers are as due" : wrong + " answers are not as due");
-        if (wrong != 0) {
-            System.exit(1);
-        }
+        RUNNER.finish();
     }
 }

@@ -6,22 +6,28 @@ import java.util.List;
  * Runs calls that are written as text, each with the answer that is due: "add 0 1 = 2". Calls are parted by a
  * semicolon or a new line; what follows # is left out.
  *
- * Every call is made on an object of its own, after all calls before it that changed something, so that no object
- * gets more than the 512 calls that the document promises. A question and a refused call (one that is due an
- * answer below 0) are also seen to change nothing.
+ * Every call is made twice: on an object of its own, after all calls before it that changed something, and on one
+ * object that gets all calls of the script in turn (until it has had the 512 calls that the document promises). A
+ * question and a refused call (one that is due an answer below 0) are also seen to change nothing: neither what the
+ * questions answer nor the number that the next expression gets.
  *
  * Beside the calls there are:
  * - "poly 3 = 2@49 1@0": expression 3 is 2 * a + 1 (coefficients @ triples, falling; "poly 3 = 0" for none);
- * - "fill": numbers are made until there are 16 expressions;
+ * - "fill 15": the number 9 is made until there are 15 expressions;
  * - X! S! N! T! in place of an argument: every one of some wrong expressions, symbols, powers, triples in turn;
  * - MIN and MAX for the least and the greatest int.
  */
 final class ScriptRunner {
+    private static final int MOST_EXPRESSIONS = 16;
+
+    // With 16 expressions and all their terms a reading would take more than 512 calls.
+    private static final int MOST_TERMS_READ = 8;
+
     private static final class Step {
         final String name;
         final int[] arguments;
 
-        Step(String name, int[] arguments) {
+        Step(String name, int... arguments) {
             this.name = name;
             this.arguments = arguments;
         }
@@ -35,16 +41,24 @@ final class ScriptRunner {
 
     private final List<Step> changes = new ArrayList<>();
     private String title = "";
+    private SymbolicForms oneObject = new SymbolicForms();
+    private int callsOnOneObject = 0;
     private int calls = 0;
     private int wrong = 0;
+    private int scripts = 0;
 
-    int wrong() {
-        return wrong;
+    /** Ends the program, with exit code 1 if an answer was not the one that is due. */
+    void finish() {
+        System.out.println(wrong == 0 ? scripts + " scripts, all answers are as due"
+            : wrong + " answers are not as due");
+        System.exit(wrong == 0 ? 0 : 1);
     }
 
     void run(String scriptTitle, String script) {
         title = scriptTitle;
+        scripts++;
         changes.clear();
+        renewOneObject();
         for (String line : script.split("\n")) {
             for (String statement : line.split("#")[0].split(";")) {
                 if (!statement.isBlank()) {
@@ -55,10 +69,8 @@ final class ScriptRunner {
     }
 
     private void runStatement(String statement) {
-        if (statement.equals("fill")) {
-            for (int made = count(); made < 16; made++) {
-                check(new Step("number", new int[] {9}), made);
-            }
+        if (statement.startsWith("fill ")) {
+            fill(Integer.parseInt(statement.substring(5)));
             return;
         }
         String[] sides = statement.split("=");
@@ -70,6 +82,12 @@ final class ScriptRunner {
         int want = number(sides[1].trim());
         for (int[] arguments : argumentLists(words)) {
             check(new Step(words[0], arguments), want);
+        }
+    }
+
+    private void fill(int most) {
+        for (int made = count(); made < most; made++) {
+            check(new Step("number", 9), made);
         }
     }
 
@@ -111,32 +129,69 @@ final class ScriptRunner {
     }
 
     private void check(Step step, int want) {
-        SymbolicForms f = replay();
+        checkAnswer(replay(), step, want);
+        checkCallCount();
         boolean changesNothing = want < 0 || !(Calls.isMaker(step.name) || step.name.equals("clear"));
-        String before = changesNothing ? everything(f) : "";
-        due(step.toString(), ask(f, step), want);
         if (changesNothing) {
-            if (!everything(f).equals(before)) {
-                report(step + " changed something");
-            }
+            checkNothingChanged(step);
         } else {
             changes.add(step);
         }
+    }
+
+    // Two readings that share no question: what a question changes is seen by the reading that does not ask it.
+    private void checkNothingChanged(Step step) {
+        String values = readValues(replay());
+        String terms = readTerms(replay());
+        SymbolicForms first = replay();
+        ask(first, step);
+        boolean same = readValues(first).equals(values);
         checkCallCount();
+        SymbolicForms second = replay();
+        ask(second, step);
+        same &= readTerms(second).equals(terms);
+        checkCallCount();
+        if (!same) {
+            report(step + " changed something");
+        }
     }
 
     private void checkPolynomial(int x, String want) {
         SymbolicForms f = replay();
         String[] listed = want.equals("0") ? new String[0] : want.split(" +");
-        due("terms(" + x + ")", ask(f, "terms", x), listed.length);
+        checkAnswer(f, new Step("terms", x), listed.length);
         for (int i = 0; i < listed.length; i++) {
             String[] parts = listed[i].split("@");
             int triple = Integer.parseInt(parts[1]);
-            due("term(" + x + ", " + i + ")", ask(f, "term", x, i), triple);
-            due("coefficient(" + x + ", " + triple + ")", ask(f, "coefficient", x, triple),
-                Integer.parseInt(parts[0]));
+            checkAnswer(f, new Step("term", x, i), triple);
+            checkAnswer(f, new Step("coefficient", x, triple), Integer.parseInt(parts[0]));
         }
         checkCallCount();
+    }
+
+    private void checkAnswer(SymbolicForms f, Step step, int want) {
+        int got = ask(f, step);
+        due(step.toString(), got, want);
+        int gotOnOneObject = askOneObject(step);
+        if (gotOnOneObject != got) {
+            report(step + " after all calls before it answered " + gotOnOneObject + ", due is " + want);
+        }
+    }
+
+    private int askOneObject(Step step) {
+        if (callsOnOneObject >= Calls.MOST_CALLS) {
+            renewOneObject();
+        }
+        callsOnOneObject++;
+        return Calls.make(oneObject, step.name, step.arguments);
+    }
+
+    private void renewOneObject() {
+        oneObject = new SymbolicForms();
+        for (Step step : changes) {
+            Calls.make(oneObject, step.name, step.arguments);
+        }
+        callsOnOneObject = changes.size();
     }
 
     private SymbolicForms replay() {
@@ -152,16 +207,30 @@ final class ScriptRunner {
         return replay().expressions();
     }
 
-    private String everything(SymbolicForms f) {
-        int count = ask(f, "expressions");
+    private String readValues(SymbolicForms f) {
         StringBuilder text = new StringBuilder();
-        text.append(count).append(' ').append(ask(f, "kinds"));
-        for (int x = 0; x < count; x++) {
-            text.append(';').append(ask(f, "terms", x)).append(' ').append(ask(f, "degree", x));
-            text.append(' ').append(ask(f, "value", x, 1234, 5678, 9012));
-            text.append(' ').append(ask(f, "value", x, 3141, 5926, 5358));
+        for (int x = 0; x <= MOST_EXPRESSIONS; x++) {
+            text.append(ask(f, "value", x, 1234, 5678, 9012)).append(' ');
+            text.append(ask(f, "value", x, 3141, 5926, 5358)).append(' ');
         }
-        return text.toString();
+        return text + readNextNumber(f);
+    }
+
+    private String readTerms(SymbolicForms f) {
+        StringBuilder text = new StringBuilder();
+        for (int x = 0; x <= MOST_EXPRESSIONS; x++) {
+            int terms = ask(f, "terms", x);
+            text.append(terms).append(':');
+            for (int i = 0; i < terms && i < MOST_TERMS_READ; i++) {
+                int triple = ask(f, "term", x, i);
+                text.append(triple).append('@').append(ask(f, "coefficient", x, triple)).append(' ');
+            }
+        }
+        return text + readNextNumber(f);
+    }
+
+    private String readNextNumber(SymbolicForms f) {
+        return ask(f, "number", 4321) + " " + ask(f, "clear") + " " + ask(f, "number", 4321);
     }
 
     private int ask(SymbolicForms f, Step step) {
