@@ -168,12 +168,16 @@ public final class MakerEdgeTest {
     private static void powerOfDegree(int d, int n) {
         String title = "Promise 8: power, -3 if the degree would be greater than 6, " + d + " * " + n;
         String base = "symbol 1 = 0; power 0 %d = 1; number 3 = 2; multiply 1 2 = 3\n".formatted(d);
-        int coefficient = 1;
-        for (int i = 0; i < n; i++) {
-            coefficient *= 3;
-        }
         RUNNER.run(title, base + (d * n > 6 ? "power 3 " + n + " = -3"
-            : "power 3 %d = 4\npoly 4 = %d@%d".formatted(n, coefficient, 7 * d * n)));
+            : "power 3 %d = 4\npoly 4 = %d@%d".formatted(n, power(3, n), 7 * d * n)));
+    }
+
+    private static int power(int base, int n) {
+        int result = 1;
+        for (int i = 0; i < n; i++) {
+            result *= base;
+        }
+        return result;
     }
 
     private static void everythingToThePowerZero() {
@@ -276,9 +280,10 @@ public final class MakerEdgeTest {
             number 1 = 6; add 5 6 = 7
             """.formatted(symbol, next, e, others, d);
         int degree = others + e * d;
+        int atTwo = power(power(2, d) + 1, e) * power(2, others);
         RUNNER.run(title, made + (degree > 6 ? "substitute 4 %d 7 = -3".formatted(symbol) : """
-            substitute 4 %d 7 = 8; degree 8 = %2$d; degreeIn 8 %3$d = %2$d; degreeIn 8 %1$d = 0
-            """.formatted(symbol, degree, next)));
+            substitute 4 %1$d 7 = 8; degree 8 = %2$d; degreeIn 8 %3$d = %2$d; degreeIn 8 %1$d = 0; value 8 2 2 2 = %4$d
+            """.formatted(symbol, degree, next, atTwo % 10007)));
     }
 
     private static void substituteSomeTermTooHigh() {

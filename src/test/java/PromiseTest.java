@@ -238,7 +238,7 @@ public final class PromiseTest {
             add 8 2 = 9                                   # b^6 + c
             substitute 7 2 9 = 10; substitute 0 0 9 = 11  # an exponent of 0 counts 0
             same 10 7 = 1; same 11 9 = 1
-            substitute 3 0 9 = -3; substitute 7 0 9 = -3
+            substitute 3 0 9 = -3; substitute 7 0 9 = -3; substitute 7 S! 9 = -4
             """);
         RUNNER.run("promise 10, too high even though it cancels", """
             symbol 0 = 0; symbol 1 = 1; symbol 2 = 2; power 0 2 = 3; power 1 3 = 4; power 2 2 = 5

@@ -59,6 +59,15 @@ final class ScriptRunner {
         scripts++;
         changes.clear();
         renewOneObject();
+        // No call may ever throw; one that does must not keep the other scripts from being run.
+        try {
+            runStatements(script);
+        } catch (RuntimeException thrown) {
+            report("stopped by " + thrown);
+        }
+    }
+
+    private void runStatements(String script) {
         for (String line : script.split("\n")) {
             for (String statement : line.split("#")[0].split(";")) {
                 if (!statement.isBlank()) {

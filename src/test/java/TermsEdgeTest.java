@@ -268,8 +268,11 @@ public final class TermsEdgeTest {
         RUNNER.run("Terms: order in substitute, -2 before -3",
             some + "substitute 1 0 1 = -3; fill 16; substitute 1 0 1 = -2");
         RUNNER.run("Terms: order in substitute, -2 before -4 and -3", full + "substitute 1 S! 1 = -2");
-        RUNNER.run("Terms: order in substitute, -4 before -3",
-            some + "substitute 1 0 1 = -3; substitute 1 S! 1 = -4");
+        // a^2 b^2 c^2 is too high by each symbol, so whichever a wrong one might be taken for
+        RUNNER.run("Terms: order in substitute, -4 before -3", """
+            symbol 0 = 0; symbol 1 = 1; symbol 2 = 2; multiply 0 1 = 3; multiply 3 2 = 4; power 4 2 = 5
+            substitute 5 0 5 = -3; substitute 5 1 5 = -3; substitute 5 2 5 = -3; substitute 5 S! 5 = -4
+            """);
     }
 
     private static void orderInQuestions(String some, String full) {
