@@ -7,9 +7,10 @@ import java.util.List;
  * semicolon or a new line; what follows # is left out.
  *
  * Every call is made twice: on an object of its own, after all calls before it that changed something, and on one
- * object that gets all calls of the script in turn (until it has had the 512 calls that the document promises). A
- * question and a refused call (one that is due an answer below 0) are also seen to change nothing: neither what the
- * questions answer nor the number that the next expression gets.
+ * object that gets all calls of the script in turn (until it has had the 512 calls that the document promises). What
+ * a call leaves behind is looked at as well: a question and a refused call (one that is due an answer below 0) change
+ * nothing, neither what the questions answer nor the number that the next expression gets; a call that makes an
+ * expression adds one and leaves the others as they were; clear leaves what a new object has.
  *
  * Beside the calls there are:
  * - "poly 3 = 2@49 1@0": expression 3 is 2 * a + 1 (coefficients @ triples, falling; "poly 3 = 0" for none);
@@ -20,8 +21,8 @@ import java.util.List;
 final class ScriptRunner {
     private static final int MOST_EXPRESSIONS = 16;
 
-    // With 16 expressions and all their terms a reading would take more than 512 calls.
-    private static final int MOST_TERMS_READ = 8;
+    // A reading asks for the terms of 17 expressions and for the next number with 3 calls, after the call looked at.
+    private static final int CALLS_BESIDE_TERMS = MOST_EXPRESSIONS + 1 + 3 + 1;
 
     private static final class Step {
         final String name;
@@ -37,6 +38,10 @@ final class ScriptRunner {
             String listed = Arrays.toString(arguments);
             return name + "(" + listed.substring(1, listed.length() - 1) + ")";
         }
+    }
+
+    private interface Reading {
+        String read(SymbolicForms f, int looked);
     }
 
     private final List<Step> changes = new ArrayList<>();
@@ -140,28 +145,27 @@ final class ScriptRunner {
     private void check(Step step, int want) {
         checkAnswer(replay(), step, want);
         checkCallCount();
-        boolean changesNothing = want < 0 || !(Calls.isMaker(step.name) || step.name.equals("clear"));
-        if (changesNothing) {
-            checkNothingChanged(step);
-        } else {
+        boolean clears = step.name.equals("clear");
+        boolean makes = Calls.isMaker(step.name) && want >= 0;
+        // Two readings that share no question: what a question changes is seen by the reading that does not ask it.
+        checkLeft(step, clears, makes, this::readValues);
+        checkLeft(step, clears, makes, this::readTerms);
+        if (clears || makes) {
             changes.add(step);
         }
     }
 
-    // Two readings that share no question: what a question changes is seen by the reading that does not ask it.
-    private void checkNothingChanged(Step step) {
-        String values = readValues(replay());
-        String terms = readTerms(replay());
-        SymbolicForms first = replay();
-        ask(first, step);
-        boolean same = readValues(first).equals(values);
+    private void checkLeft(Step step, boolean clears, boolean makes, Reading reading) {
+        int before = count();
+        int looked = makes ? before : MOST_EXPRESSIONS + 1;
+        SymbolicForms other = clears ? new SymbolicForms() : replay();
+        String due = reading.read(other, looked) + (makes ? before + 1 : readNextNumber(other));
+        SymbolicForms f = replay();
+        ask(f, step);
+        String left = reading.read(f, looked) + (makes ? ask(f, "expressions") : readNextNumber(f));
         checkCallCount();
-        SymbolicForms second = replay();
-        ask(second, step);
-        same &= readTerms(second).equals(terms);
-        checkCallCount();
-        if (!same) {
-            report(step + " changed something");
+        if (!left.equals(due)) {
+            report(step + " left something other than is due");
         }
     }
 
@@ -216,26 +220,29 @@ final class ScriptRunner {
         return replay().expressions();
     }
 
-    private String readValues(SymbolicForms f) {
+    private String readValues(SymbolicForms f, int looked) {
         StringBuilder text = new StringBuilder();
-        for (int x = 0; x <= MOST_EXPRESSIONS; x++) {
+        for (int x = 0; x < looked; x++) {
             text.append(ask(f, "value", x, 1234, 5678, 9012)).append(' ');
             text.append(ask(f, "value", x, 3141, 5926, 5358)).append(' ');
         }
-        return text + readNextNumber(f);
+        return text.toString();
     }
 
-    private String readTerms(SymbolicForms f) {
+    // Reads as many terms as the 512 calls leave room for, which is all of them but in scripts with many great sums.
+    private String readTerms(SymbolicForms f, int looked) {
+        int left = (Calls.MOST_CALLS - changes.size() - CALLS_BESIDE_TERMS) / 2;
         StringBuilder text = new StringBuilder();
-        for (int x = 0; x <= MOST_EXPRESSIONS; x++) {
+        for (int x = 0; x < looked; x++) {
             int terms = ask(f, "terms", x);
             text.append(terms).append(':');
-            for (int i = 0; i < terms && i < MOST_TERMS_READ; i++) {
+            for (int i = 0; i < terms && left > 0; i++) {
                 int triple = ask(f, "term", x, i);
                 text.append(triple).append('@').append(ask(f, "coefficient", x, triple)).append(' ');
+                left--;
             }
         }
-        return text + readNextNumber(f);
+        return text.toString();
     }
 
     private String readNextNumber(SymbolicForms f) {
