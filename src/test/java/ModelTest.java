@@ -152,7 +152,8 @@ public final class ModelTest {
         for (String call : REPEATED) {
             wrong += runOneCall(call);
         }
-        System.out.println(wrong == 0 ? OBJECTS + REPEATED.length + " objects answered as due" : wrong + " things are not as due");
+        System.out.println(wrong == 0 ? OBJECTS + REPEATED.length + " objects answered as due"
+            : wrong + " things are not as due");
         if (wrong != 0) {
             System.exit(1);
         }

@@ -15,6 +15,15 @@ public final class PromiseTest {
         RUNNER.due("coefficient(0, 49) of the first object", first.coefficient(0, 49), 1);
     }
 
+    private static void readmeExample() {
+        RUNNER.run("the example in README.md", """
+            symbol 0 = 0; symbol 1 = 1; add 0 1 = 2; power 2 3 = 3
+            poly 3 = 1@147 3@105 3@63 1@21
+            coefficient 3 105 = 3; value 3 2 5 0 = 343; multiply 3 3 = 4; degree 4 = 6; power 3 3 = -3
+            clear = 5; symbol 0 = 0
+            """);
+    }
+
     private static void clear() {
         RUNNER.run("promise 2", """
             symbol 0 = 0; symbol 1 = 1; symbol 2 = 2
@@ -434,6 +443,7 @@ public final class PromiseTest {
         for (Runnable promise : promises) {
             promise.run();
         }
+        readmeExample();
         RUNNER.finish();
     }
 }
